@@ -14,7 +14,8 @@ public final class RowOrders {
     private static final int LEAST_NUMBERS = 2;
     private static final int MOST_NUMBERS = 5;
     private static final int MOST_PERMUTATIONS = 120;
-    private static final int MOST_EXCHANGES = 3000;
+    private static final int MOST_PAIRS = 10;
+    private static final int MOST_EXCHANGES = 1200;
 
     private final int n;
     private final int count;
@@ -174,26 +175,30 @@ public final class RowOrders {
         if (!isZeroOrOne(o)) {
             return BAD_ARG;
         }
-        startSums(element[0]);
-        for (int k = element[0]; k < element[1]; k++) {
+        int from = element[0];
+        int to = element[1];
+        startSums(from);
+        for (int k = from; k < to; k++) {
             if (sums[k] != 0) {
                 passWaysOn(k, o);
             }
         }
-        return sums[element[1]];
+        return sums[to];
     }
 
     public int sign(int o) {
         if (!isZeroOrOne(o)) {
             return BAD_ARG;
         }
-        startSums(element[0]);
-        for (int k = element[0]; k < element[1]; k++) {
+        int from = element[0];
+        int to = element[1];
+        startSums(from);
+        for (int k = from; k < to; k++) {
             if (sums[k] != 0) {
                 takeSignFromAbove(k, o);
             }
         }
-        return sums[element[1]];
+        return sums[to];
     }
 
     public int steps(int e, int o) {
@@ -202,13 +207,11 @@ public final class RowOrders {
         }
         int from = element[e];
         int found = 0;
-        for (int i = 0; i < n - 1; i++) {
-            int last = lastPartner(i, o);
-            for (int j = i + 1; j <= last; j++) {
-                int to = rankAfterExchange(from, i, j);
-                if (isSingleStep(from, to)) {
-                    found++;
-                }
+        int pairs = countPairs(o);
+        for (int pair = 0; pair < pairs; pair++) {
+            int to = exchangedRank[from * MOST_PAIRS + pair];
+            if (isSingleStep(from, to)) {
+                found++;
             }
         }
         return found;
@@ -225,17 +228,21 @@ public final class RowOrders {
     private void fillTables(int k) {
         loadRow(made, k);
         inversionCount[k] = countInversions(made);
-        for (int i = 0; i < n - 1; i++) {
-            for (int j = i + 1; j < n; j++) {
-                exchangeNumbers(made, i, j);
-                exchangedRank[(k * MOST_NUMBERS + i) * MOST_NUMBERS + j] = rankOfRow(made);
-                exchangeNumbers(made, i, j);
+        int pair = 0;
+        // The pairs of places next to each other come first: order 1 looks at these alone.
+        for (int distance = 1; distance < n; distance++) {
+            for (int i = 0; i < n - distance; i++) {
+                exchangeNumbers(made, i, i + distance);
+                exchangedRank[k * MOST_PAIRS + pair] = rankOfRow(made);
+                exchangeNumbers(made, i, i + distance);
+                pair++;
             }
         }
     }
 
-    private int rankAfterExchange(int k, int i, int j) {
-        return exchangedRank[(k * MOST_NUMBERS + i) * MOST_NUMBERS + j];
+    /** How many pairs of places a step of order o may exchange. */
+    private int countPairs(int o) {
+        return o == 0 ? n * (n - 1) / 2 : n - 1;
     }
 
     /** Writes the permutation of rank k from its last place to its first one. */
@@ -318,11 +325,6 @@ public final class RowOrders {
         return inversionCount[k];
     }
 
-    /** The last place that a step of order o may exchange with the earlier place i. */
-    private int lastPartner(int i, int o) {
-        return o == 0 ? n - 1 : i + 1;
-    }
-
     private boolean isStep(int from, int to) {
         return inversionCount[to] > inversionCount[from];
     }
@@ -344,13 +346,11 @@ public final class RowOrders {
     }
 
     private void markStepsFrom(boolean[] marked, int from, int o) {
-        for (int i = 0; i < n - 1; i++) {
-            int last = lastPartner(i, o);
-            for (int j = i + 1; j <= last; j++) {
-                int to = rankAfterExchange(from, i, j);
-                if (isStep(from, to)) {
-                    marked[to] = true;
-                }
+        int pairs = countPairs(o);
+        for (int pair = 0; pair < pairs; pair++) {
+            int to = exchangedRank[from * MOST_PAIRS + pair];
+            if (isStep(from, to)) {
+                marked[to] = true;
             }
         }
     }
@@ -366,13 +366,11 @@ public final class RowOrders {
     }
 
     private boolean stepsToMarked(boolean[] marked, int from, int o) {
-        for (int i = 0; i < n - 1; i++) {
-            int last = lastPartner(i, o);
-            for (int j = i + 1; j <= last; j++) {
-                int to = rankAfterExchange(from, i, j);
-                if (isStep(from, to) && marked[to]) {
-                    return true;
-                }
+        int pairs = countPairs(o);
+        for (int pair = 0; pair < pairs; pair++) {
+            int to = exchangedRank[from * MOST_PAIRS + pair];
+            if (isStep(from, to) && marked[to]) {
+                return true;
             }
         }
         return false;
@@ -385,13 +383,11 @@ public final class RowOrders {
     }
 
     private void passWaysOn(int from, int o) {
-        for (int i = 0; i < n - 1; i++) {
-            int last = lastPartner(i, o);
-            for (int j = i + 1; j <= last; j++) {
-                int to = rankAfterExchange(from, i, j);
-                if (isSingleStep(from, to)) {
-                    sums[to] += sums[from];
-                }
+        int pairs = countPairs(o);
+        for (int pair = 0; pair < pairs; pair++) {
+            int to = exchangedRank[from * MOST_PAIRS + pair];
+            if (isSingleStep(from, to)) {
+                sums[to] += sums[from];
             }
         }
     }
