@@ -1,134 +1,127 @@
-/** Long runs of mixed calls on one object: no call leaves a trace in a later answer. */
+/**
+ * "An object is used for at most 512 calls after it has been made": whatever the calls
+ * before were, taken or refused, every call up to the 512th answers as due.
+ */
 public final class LongRunTest {
     private static final int CALLS = 512;
     private static final Check CHECK = new Check();
 
     private final Oracle oracle;
     private final RowOrders x;
-    private final String[] element;
+    private final Model model;
+    private final String name;
+    private int made = 0;
     private long state;
 
-    private LongRunTest(Oracle oracle, long seed) {
+    private LongRunTest(Oracle oracle, String name, long seed) {
         this.oracle = oracle;
+        this.name = "n " + oracle.n + ", " + name;
         x = new RowOrders(oracle.n);
-        element = new String[] {oracle.all.get(0), oracle.all.get(0)};
+        model = new Model(oracle);
         state = seed;
     }
 
     public static void main(String[] args) {
         for (int n = 2; n <= 5; n++) {
             Oracle oracle = new Oracle(n);
+            CHECK.sentence("at most 512 calls: mixed ones");
             for (int seed = 1; seed <= 60; seed++) {
-                LongRunTest run = new LongRunTest(oracle, seed);
-                for (int call = 0; call < CALLS; call++) {
-                    run.call("n " + n + ", seed " + seed + ", call " + call + ": ");
+                new LongRunTest(oracle, "seed " + seed, seed).mixedUpTo(CALLS);
+            }
+            CHECK.sentence("at most 512 calls: all of them the same");
+            for (String call : Model.CALLS) {
+                new LongRunTest(oracle, "all " + call, n).sameUpTo(CALLS, call);
+                for (int e = 0; e < 2; e++) {
+                    LongRunTest run = new LongRunTest(oracle, "put and then all " + call, n);
+                    run.call("put", e, Oracle.code(oracle.all.get(oracle.all.size() - 1)), 0);
+                    run.sameUpTo(CALLS, call);
+                }
+            }
+            CHECK.sentence("at most 512 calls: every call as the 512th, after mixed ones");
+            for (String call : Model.CALLS) {
+                LongRunTest run = new LongRunTest(oracle, call + " last", n);
+                run.mixedUpTo(CALLS - 1);
+                run.sameUpTo(CALLS, call);
+            }
+            CHECK.sentence("at most 512 calls: every call as the 512th, after refused ones");
+            for (String call : Model.CALLS) {
+                LongRunTest run = new LongRunTest(oracle, call + " after refused ones", n);
+                run.putBoth();
+                run.refusedUpTo(CALLS - 1);
+                run.sameUpTo(CALLS, call);
+            }
+            CHECK.sentence("at most 512 calls: what every call as the 511th did, told by the 512th");
+            for (String call : Model.CALLS) {
+                for (int e = 0; e < 2; e++) {
+                    LongRunTest run = new LongRunTest(oracle, call + " last but one", n + e);
+                    run.mixedUpTo(CALLS - 2);
+                    run.sameUpTo(CALLS - 1, call);
+                    run.call("code", e, 0, 0);
                 }
             }
         }
         CHECK.end();
     }
 
+    private void mixedUpTo(int end) {
+        while (made < end) {
+            // A put is as frequent as some others together, that the elements stay mixed.
+            int which = draw(Model.CALLS.length + 4);
+            draw(which < Model.CALLS.length ? Model.CALLS[which] : "put", 16);
+        }
+    }
+
+    private void sameUpTo(int end, String call) {
+        while (made < end) {
+            draw(call, Integer.MAX_VALUE);
+        }
+    }
+
+    private void refusedUpTo(int end) {
+        while (made < end) {
+            String call = Model.CALLS[draw(Model.CALLS.length)];
+            if (!call.equals("multiply") && !call.equals("meet") && !call.equals("join")) {
+                call(call, -1 - draw(3), drawCode(), draw(oracle.n));
+            }
+        }
+    }
+
+    private void putBoth() {
+        call("put", 0, drawCode(), 0);
+        call("put", 1, drawCode(), 0);
+    }
+
+    /** A call with drawn arguments, one in some of them with its first argument out of range. */
+    private void draw(String call, int some) {
+        int a = draw(some) == 0 ? draw(2) * 3 - 1 : draw(2);
+        switch (call) {
+            case "put":
+                call(call, a, drawCode(), 0);
+                break;
+            case "permutation":
+                call(call, draw(130) - 5, 0, 0);
+                break;
+            case "exchange":
+                call(call, a, draw(oracle.n), draw(oracle.n));
+                break;
+            default:
+                call(call, a, draw(2), 0);
+        }
+    }
+
+    private int drawCode() {
+        return Oracle.code(oracle.all.get(draw(oracle.all.size())));
+    }
+
+    private void call(String call, int a, int b, int c) {
+        made++;
+        String at = name + ", call " + made + ": ";
+        CHECK.due(at + Model.told(call, a, b, c), Model.ask(x, call, a, b, c), model.due(call, a, b, c));
+    }
+
     /** The same numbers in every run, from a plain congruence. */
     private int draw(int bound) {
         state = state * 6364136223846793005L + 1442695040888963407L;
         return (int) ((state >>> 33) % bound);
-    }
-
-    private void call(String at) {
-        int which = draw(20);
-        // Now and then the argument is out of its range: -1 or 2.
-        int a = draw(16) == 0 ? draw(2) * 3 - 1 : draw(2);
-        if (which < 10) {
-            change(at, which, a);
-        } else {
-            ask(at, which, a);
-        }
-    }
-
-    private boolean isBad(int a) {
-        return a != 0 && a != 1;
-    }
-
-    private void become(String at, String call, int e, String due, int got) {
-        boolean bad = isBad(e);
-        if (!bad) {
-            element[e] = due;
-        }
-        CHECK.due(at + call, got, bad ? RowOrders.BAD_ARG : Oracle.inversions(due));
-    }
-
-    private void change(String at, int which, int e) {
-        String old = isBad(e) ? "" : element[e];
-        switch (which) {
-            case 0: case 1: case 2: case 3: {
-                String p = oracle.all.get(draw(oracle.all.size()));
-                CHECK.due(at + "put", x.put(e, Oracle.code(p)), isBad(e) ? RowOrders.BAD_ARG : 0);
-                if (!isBad(e)) {
-                    element[e] = p;
-                }
-                break;
-            }
-            case 4: case 5: {
-                int i = draw(oracle.n);
-                int j = draw(oracle.n);
-                become(at, "exchange", e, isBad(e) ? "" : oracle.exchange(old, i, j), x.exchange(e, i, j));
-                break;
-            }
-            case 6:
-                become(at, "invert", e, isBad(e) ? "" : oracle.invert(old), x.invert(e));
-                break;
-            case 7:
-                become(at, "reverse", e, isBad(e) ? "" : oracle.reverse(old), x.reverse(e));
-                break;
-            case 8:
-                become(at, "multiply", 0, oracle.multiply(element[0], element[1]), x.multiply());
-                break;
-            default:
-                if (draw(2) == 0) {
-                    become(at, "meet", 0, oracle.meet(element[0], element[1]), x.meet());
-                } else {
-                    become(at, "join", 0, oracle.join(element[0], element[1]), x.join());
-                }
-        }
-    }
-
-    private void ask(String at, int which, int a) {
-        boolean bad = isBad(a);
-        String p = element[0];
-        String q = element[1];
-        switch (which) {
-            case 10: case 11:
-                CHECK.due(at + "code", x.code(a), bad ? RowOrders.BAD_ARG : Oracle.code(element[a]));
-                break;
-            case 12:
-                CHECK.due(at + "inversions", x.inversions(a), bad ? RowOrders.BAD_ARG : Oracle.inversions(element[a]));
-                break;
-            case 13:
-                CHECK.due(at + "rank", x.rank(a), bad ? RowOrders.BAD_ARG : oracle.all.indexOf(element[a]));
-                break;
-            case 14: {
-                int k = draw(130) - 5;
-                boolean none = k < 0 || k >= oracle.all.size();
-                CHECK.due(at + "permutation", x.permutation(k),
-                        none ? RowOrders.NONE : Oracle.code(oracle.all.get(k)));
-                break;
-            }
-            case 15:
-                CHECK.due(at + "below", x.below(a), bad ? RowOrders.BAD_ARG : oracle.below(p, q, a));
-                break;
-            case 16:
-                CHECK.due(at + "interval", x.interval(a), bad ? RowOrders.BAD_ARG : oracle.interval(p, q, a));
-                break;
-            case 17:
-                CHECK.due(at + "ways", x.ways(a), bad ? RowOrders.BAD_ARG : oracle.ways(p, q, a));
-                break;
-            case 18:
-                CHECK.due(at + "sign", x.sign(a), bad ? RowOrders.BAD_ARG : oracle.sign(p, q, a));
-                break;
-            default: {
-                int e = draw(2);
-                CHECK.due(at + "steps", x.steps(e, a), bad ? RowOrders.BAD_ARG : oracle.steps(element[e], a));
-            }
-        }
     }
 }
